@@ -497,19 +497,15 @@ public final class ShareCoder {
                 sink(i);
             }
             for (int p = 0; p < places; p++) {
-                cells[p] = nextEven();
+                int s = heap[0];
+                cells[p] = s;
+                laid[s]++;
+                if (laid[s] == shares[s] && heaped > 1) {
+                    heaped--;
+                    heap[0] = heap[heaped];
+                }
+                sink(0);
             }
-        }
-
-        private int nextEven() {
-            int s = heap[0];
-            laid[s]++;
-            if (laid[s] >= shares[s] && heaped > 1) {
-                heaped--;
-                heap[0] = heap[heaped];
-            }
-            sink(0);
-            return s;
         }
 
         private void sink(int from) {
@@ -765,7 +761,10 @@ public final class ShareCoder {
             readHead();
             readShares();
             readSizes();
-            readStates();
+            if (isWhole()) {
+                coder.prepare(table, kind, way);
+                readStates();
+            }
             findPayload();
             readMessage();
             checkPayloadEnd();
@@ -860,10 +859,6 @@ public final class ShareCoder {
         }
 
         private void readStates() {
-            if (!isWhole()) {
-                return;
-            }
-            coder.prepare(table, kind, way);
             statesAt = at;
             for (int i = 0; i < coder.stateCount(); i++) {
                 int stateAt = at;
