@@ -28,7 +28,7 @@ public final class FaultsTest {
     }
 
     private void is(String what, int[] packet, int fault, int place) {
-        ShareCoder x = new ShareCoder();
+        Limited x = new Limited();
         Tapes.put(x, packet);
         int answer = x.unpack(2);
         due.holds(what + ": unpack answered " + answer, fault == 0 ? answer >= 0 : answer == ShareCoder.NONE);

@@ -51,50 +51,59 @@ public final class ModelTest {
 
     private void roundTrip(int seed) {
         Random random = new Random(seed);
-        Pair pair = new Pair(due, "round trip " + seed);
         int m = 1 + seed % 12;
         int length = random.nextInt(4) == 0 ? 1400 : random.nextInt(1401);
         int[] message = bytes(random, length, symbolsFor(random, m));
+        for (int coding = 0; coding < 5; coding++) {
+            roundTrip("round trip " + seed + ", " + coding, message, m, coding);
+        }
+    }
+
+    private void roundTrip(String run, int[] message, int m, int coding) {
+        Pair pair = new Pair(due, run);
         pair.tape(message);
         pair.learn(1, m);
         pair.ideal(1);
-        for (int coding = 0; coding < 5; coding++) {
-            int kind = Math.max(0, coding - 2);
-            pair.tape(message);
-            int count = pair.pack(1, kind, coding < 3 ? coding : 0);
-            pair.allLooks();
-            pair.allWritten(count);
-            pair.take();
-            int symbols = pair.unpack(2 + coding % 4);
-            due.is("round trip " + seed + ": unpack gives all", symbols, message.length == 0 ? -1 : message.length);
-            pair.allFaults();
-            pair.allLooks();
-            pair.allWritten(symbols);
-            for (int s = 0; s < 256; s++) {
-                pair.share(2 + coding % 4, s);
-            }
+        int count = pair.pack(1, Math.max(0, coding - 2), coding < 3 ? coding : 0);
+        pair.allLooks();
+        pair.allWritten(count);
+        pair.take();
+        int symbols = pair.unpack(2 + coding % 4);
+        due.is(run + ": unpack gives all", symbols, message.length == 0 ? -1 : message.length);
+        pair.allFaults();
+        pair.allLooks();
+        pair.allWritten(symbols);
+        for (int s = 0; s < 256; s++) {
+            pair.share(2 + coding % 4, s);
         }
     }
 
     private void damaged(int seed) {
         Random random = new Random(1000 + seed);
-        Pair pair = new Pair(due, "damaged " + seed);
         int m = 1 + random.nextInt(5);
         int[] message = bytes(random, 1 + random.nextInt(30), 1 + random.nextInt(Math.min(1 << m, 7)));
-        pair.tape(message);
-        pair.learn(0, m);
-        int[] packet = pair.allWritten(pair.pack(0, seed % 3, seed % 3 == 0 ? random.nextInt(3) : 0));
-        for (int i = 0; i < 300; i++) {
-            pair.tape(damage(random, packet));
-            pair.unpack(1);
-            faultsMet[pair.fault(0)]++;
-            pair.allFaults();
-            pair.allLooks();
-            pair.log(1);
-            pair.written(0);
-            pair.written(1);
-            pair.end(1);
+        int spread = seed % 3 == 0 ? random.nextInt(3) : 0;
+        for (int part = 0; part < 15; part++) {
+            Pair pair = new Pair(due, "damaged " + seed + ", " + part);
+            pair.tape(message);
+            pair.learn(0, m);
+            int[] packet = pair.allWritten(pair.pack(0, seed % 3, spread));
+            for (int i = 0; i < 20; i++) {
+                pair.tape(damage(random, packet));
+                unpackAndLook(pair);
+            }
         }
+    }
+
+    private void unpackAndLook(Pair pair) {
+        pair.unpack(1);
+        faultsMet[pair.fault(0)]++;
+        pair.allFaults();
+        pair.allLooks();
+        pair.log(1);
+        pair.written(0);
+        pair.written(1);
+        pair.end(1);
     }
 
     private static int[] damage(Random random, int[] packet) {
@@ -172,31 +181,16 @@ public final class ModelTest {
         }
     }
 
-    /** All places of all spreads, and each state's step there and back. */
+    /** Places of all spreads, and states' steps there and back. */
     private void wholeSpreads(int m) {
         Random random = new Random(9000 + m);
-        Pair pair = new Pair(due, "spreads " + m);
         int[] message = bytes(random, 1400, symbolsFor(random, m));
+        for (int way = 0; way <= 2; way++) {
+            tableStates(m, way, random, message);
+        }
+        Pair pair = new Pair(due, "division " + m);
         pair.tape(message);
         pair.learn(4, m);
-        int stride = Math.max(1, (1 << m) / 64);
-        for (int way = 0; way <= 2; way++) {
-            for (int p = -1; p <= 1 << m; p += stride) {
-                pair.place(4, way, p);
-                pair.rank(4, way, p);
-                int x = (1 << m) + p;
-                pair.symbol(4, 0, way, x);
-                pair.left(4, 0, way, x);
-                pair.code(4, 0, way, x, message[random.nextInt(1400)]);
-                pair.gone(0);
-                pair.gone(1);
-            }
-            pair.place(4, way, (1 << m) - 1);
-            pair.rank(4, way, (1 << m) - 1);
-            pair.place(4, way, 1 << m);
-            pair.code(4, 0, way, 2 << m, message[0]);
-            pair.code(4, 0, way, (2 << m) - 1, message[0]);
-        }
         for (int i = 0; i < 200; i++) {
             int x = 8388608 + random.nextInt(Integer.MAX_VALUE - 8388608);
             pair.code(4, 1 + i % 2, 0, x, message[random.nextInt(1400)]);
@@ -205,5 +199,26 @@ public final class ModelTest {
             pair.symbol(4, 1 + i % 2, 0, x);
             pair.left(4, 1 + i % 2, 0, x);
         }
+    }
+
+    private void tableStates(int m, int way, Random random, int[] message) {
+        Pair pair = new Pair(due, "spread " + way + " of " + m);
+        pair.tape(message);
+        pair.learn(4, m);
+        for (int p = -1; p <= 1 << m; p += Math.max(1, (1 << m) / 64)) {
+            pair.place(4, way, p);
+            pair.rank(4, way, p);
+            int x = (1 << m) + p;
+            pair.symbol(4, 0, way, x);
+            pair.left(4, 0, way, x);
+            pair.code(4, 0, way, x, message[random.nextInt(1400)]);
+            pair.gone(0);
+            pair.gone(1);
+        }
+        pair.place(4, way, (1 << m) - 1);
+        pair.rank(4, way, (1 << m) - 1);
+        pair.place(4, way, 1 << m);
+        pair.code(4, 0, way, 2 << m, message[0]);
+        pair.code(4, 0, way, (2 << m) - 1, message[0]);
     }
 }

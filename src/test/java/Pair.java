@@ -2,7 +2,7 @@
 final class Pair {
     private final Due due;
     private final String run;
-    private ShareCoder program = new ShareCoder();
+    private Limited program = new Limited();
     private Model model = new Model();
 
     Pair(Due due, String run) {

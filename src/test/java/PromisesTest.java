@@ -39,14 +39,7 @@ public final class PromisesTest {
         test.due.finish("PromisesTest");
     }
 
-    private void bytes(String what, int[] got, int... want) {
-        due.is(what + ", how many", got.length, want.length);
-        for (int i = 0; i < Math.min(got.length, want.length); i++) {
-            due.is(what + ", byte " + i, got[i], want[i]);
-        }
-    }
-
-    private void shares(String what, ShareCoder x, int t, int... symbolsAndShares) {
+    private void shares(String what, Limited x, int t, int... symbolsAndShares) {
         int sum = 0;
         for (int i = 0; i < symbolsAndShares.length; i += 2) {
             due.is(what + ": share of " + symbolsAndShares[i], x.share(t, symbolsAndShares[i]), symbolsAndShares[i + 1]);
@@ -55,22 +48,14 @@ public final class PromisesTest {
         due.is(what + ": shares together", sum, 1 << x.log(t));
     }
 
-    private void looks(String what, ShareCoder x, int... figures) {
+    private void looks(String what, Limited x, int... figures) {
         for (int i = 0; i < 6; i++) {
             due.is(what + ": look(" + i + ")", x.look(i), figures[i]);
         }
     }
 
-    /** TABLE 0 has the SHARES that a text has, with a LOG. */
-    private static ShareCoder learned(String text, int m) {
-        ShareCoder x = new ShareCoder();
-        Tapes.put(x, text);
-        x.learn(0, m);
-        return x;
-    }
-
     private void promise1NewObject() {
-        ShareCoder x = new ShareCoder();
+        Limited x = new Limited();
         due.is("NONE", ShareCoder.NONE, -1);
         for (int t = 0; t <= 5; t++) {
             due.is("new: log", x.log(t), NONE);
@@ -85,13 +70,13 @@ public final class PromisesTest {
         due.is("new: gone(1)", x.gone(1), 0);
         looks("new", x, 0, 0, 0, 0, 0, 0);
         due.is("new: take()", x.take(), 0);
-        ShareCoder other = learned("ab", 1);
+        Limited other = Tapes.learned("ab", 1);
         due.is("objects share nothing", x.log(0), NONE);
         due.is("the other has its own", other.log(0), 1);
     }
 
     private void promise2Feed() {
-        ShareCoder x = new ShareCoder();
+        Limited x = new Limited();
         due.is("feed", x.feed(0x01020304, 0x05060708, 0xF0F1F2F3, 0, 0x7F80FFFE), 20);
         due.is("feed again", x.feed(-1, 0, 0, 0, 9), 40);
         x.learn(0, 12);
@@ -102,8 +87,8 @@ public final class PromisesTest {
         int[] first = {1, 2, 3, 4, 5, 6, 7, 8, 0xF0, 0xF1, 0xF2, 0xF3, 0, 0, 0, 0, 0x7F, 0x80, 255, 254, 255, 255, 255, 255};
         System.arraycopy(first, 0, want, 0, first.length);
         want[39] = 9;
-        bytes("fed bytes", Tapes.written(x), want);
-        ShareCoder full = new ShareCoder();
+        due.bytes("fed bytes", Tapes.written(x), want);
+        Limited full = new Limited();
         for (int i = 1; i <= 200; i++) {
             due.is("feed " + i, full.feed(0, 0, 0, 0, 0), 20 * i);
         }
@@ -118,7 +103,7 @@ public final class PromisesTest {
     }
 
     private void promise3End() {
-        ShareCoder x = new ShareCoder();
+        Limited x = new Limited();
         x.feed(0x01020304, 0, 0, 0, 0);
         for (int n : new int[] {21, -1, MIN, MAX}) {
             due.is("end(" + n + ")", x.end(n), NONE);
@@ -133,15 +118,15 @@ public final class PromisesTest {
     }
 
     private void promise4Learn() {
-        shares("raised, ties to the least", learned("abracadabra", 4), 0, 'a', 7, 'b', 3, 'c', 2, 'd', 1, 'r', 3);
+        shares("raised, ties to the least", Tapes.learned("abracadabra", 4), 0, 'a', 7, 'b', 3, 'c', 2, 'd', 1, 'r', 3);
         // 3, 3, 1, 1, 1 of 8: the LACK of a and of b is 0, so the greater one gives.
-        shares("lowered, ties to the greatest", learned("aaaaaabbbbbbccde", 3), 0,
+        shares("lowered, ties to the greatest", Tapes.learned("aaaaaabbbbbbccde", 3), 0,
                 'a', 3, 'b', 2, 'c', 1, 'd', 1, 'e', 1);
         // 3, 1, 1, 1 of 4: only a can give, twice.
-        shares("lowered down to 1", learned("aaaaaaaaaaaaabcd", 2), 0, 'a', 1, 'b', 1, 'c', 1, 'd', 1);
-        shares("one SYMBOL", learned("zzz", 5), 0, 'z', 32);
-        shares("exact", learned("aaab", 2), 0, 'a', 3, 'b', 1);
-        ShareCoder x = learned("aaab", 12);
+        shares("lowered down to 1", Tapes.learned("aaaaaaaaaaaaabcd", 2), 0, 'a', 1, 'b', 1, 'c', 1, 'd', 1);
+        shares("one SYMBOL", Tapes.learned("zzz", 5), 0, 'z', 32);
+        shares("exact", Tapes.learned("aaab", 2), 0, 'a', 3, 'b', 1);
+        Limited x = Tapes.learned("aaab", 12);
         due.is("m 12", x.log(0), 12);
         shares("m 12", x, 0, 'a', 3072, 'b', 1024);
         due.is("the TAPE stays", x.end(4), 4);
@@ -162,7 +147,7 @@ public final class PromisesTest {
     }
 
     private void promise4LearnRefuses() {
-        ShareCoder x = learned("aab", 3);
+        Limited x = Tapes.learned("aab", 3);
         for (int t : NO_TABLES) {
             due.is("learn(" + t + ", 3)", x.learn(t, 3), NONE);
         }
@@ -181,7 +166,7 @@ public final class PromisesTest {
     }
 
     private void promises5To7Tables() {
-        ShareCoder x = learned("abracadabra", 4);
+        Limited x = Tapes.learned("abracadabra", 4);
         due.is("log(0)", x.log(0), 4);
         due.is("log(1)", x.log(1), NONE);
         due.is("share of none", x.share(0, 'e'), 0);
@@ -202,7 +187,7 @@ public final class PromisesTest {
         }
     }
 
-    private void places(String what, ShareCoder x, int spread, String symbols, int... ranks) {
+    private void places(String what, Limited x, int spread, String symbols, int... ranks) {
         for (int p = 0; p < symbols.length(); p++) {
             due.is(what + ": place " + p, x.place(0, spread, p), symbols.charAt(p));
             due.is(what + ": rank " + p, x.rank(0, spread, p), ranks[p]);
@@ -214,21 +199,21 @@ public final class PromisesTest {
     }
 
     private void promises8And9Spreads() {
-        ShareCoder x = learned("abbb", 2);
+        Limited x = Tapes.learned("abbb", 2);
         places("ROW of 4", x, 0, "abbb", 1, 3, 4, 5);
         // The STEP is 5, so 1 modulo 4.
         places("STRIDE of 4", x, 1, "abbb", 1, 3, 4, 5);
         // b 1/3; a 1/1 is as much as b 3/3, and the lesser SYMBOL; b 5/3.
         places("EVEN of 4", x, 2, "babb", 3, 1, 4, 5);
-        ShareCoder y = learned("abracadabra", 4);
+        Limited y = Tapes.learned("abracadabra", 4);
         places("ROW of 16", y, 0, "aaaaaaabbbccdrrr", 7, 8, 9, 10, 11, 12, 13, 3, 4, 5, 2, 3, 1, 3, 4, 5);
         // The STEP is 13: 0 13 10 7 4 1 14 | 11 8 5 | 2 15 | 12 | 9 6 3.
         places("STRIDE of 16", y, 1, "aacrabrabrabdaac", 7, 8, 2, 3, 9, 3, 4, 10, 4, 5, 11, 5, 1, 12, 13, 3);
         places("EVEN of 16", y, 2, "abracaabdracabra", 7, 3, 3, 8, 2, 9, 10, 4, 1, 4, 11, 3, 12, 5, 5, 13);
         // The STEP of 2 is 5, of 8 it is 9, of 32 it is 23.
-        places("STRIDE of 2", learned("ab", 1), 1, "ab", 1, 1);
-        places("STRIDE of 8", learned("aabbccdd", 3), 1, "aabbccdd", 2, 3, 2, 3, 2, 3, 2, 3);
-        ShareCoder z = learned("ab", 5);
+        places("STRIDE of 2", Tapes.learned("ab", 1), 1, "ab", 1, 1);
+        places("STRIDE of 8", Tapes.learned("aabbccdd", 3), 1, "aabbccdd", 2, 3, 2, 3, 2, 3, 2, 3);
+        Limited z = Tapes.learned("ab", 5);
         due.is("STRIDE of 32: place 23", z.place(0, 1, 23), 'a');
         due.is("STRIDE of 32: place 14", z.place(0, 1, 14), 'a');
         due.is("STRIDE of 32: place 1", z.place(0, 1, 1), 'a');
@@ -249,11 +234,11 @@ public final class PromisesTest {
     }
 
     private void promise10PackTableStates() {
-        ShareCoder x = learned("\5\6", 1);
+        Limited x = Tapes.learned("\5\6", 1);
         Tapes.put(x, 5, 6, 6);
         // 6: bit 0, X 3; 6: bit 1, X 3; 5: bit 1, X 2. Read: 1 1 0.
         due.is("pack", x.pack(0, 0, 0), 17);
-        bytes("packet", Tapes.written(x), 83, 0, 1, 1, 5, 0, 1, 6, 0, 1, 0, 3, 0, 1, 0, 0, 0xC0);
+        due.bytes("packet", Tapes.written(x), 83, 0, 1, 1, 5, 0, 1, 6, 0, 1, 0, 3, 0, 1, 0, 0, 0xC0);
         looks("packet", x, 2, 3, 3, 3, 1, 1);
         due.is("the TAPE stays", x.end(3), 3);
         due.is("pack by EVEN", x.pack(0, 0, 2), 17);
@@ -262,25 +247,25 @@ public final class PromisesTest {
         Tapes.put(x, "zzz");
         x.learn(3, 12);
         due.is("pack one SYMBOL", x.pack(3, 0, 1), 13);
-        bytes("one SYMBOL", Tapes.written(x), 83, 1, 12, 0, 'z', 16, 0, 0, 3, 0, 0, 0, 0);
+        due.bytes("one SYMBOL", Tapes.written(x), 83, 1, 12, 0, 'z', 16, 0, 0, 3, 0, 0, 0, 0);
         // a: X 8 is the RANK of PLACE 2, so X 10; b: two bits 10, RANK 2, PLACE 6.
-        ShareCoder y = learned("aaab", 3);
+        Limited y = Tapes.learned("aaab", 3);
         Tapes.put(y, "ba");
         due.is("pack two bits", y.pack(0, 0, 0), 17);
-        bytes("two bits", Tapes.written(y), 83, 0, 3, 1, 'a', 0, 6, 'b', 0, 2, 0, 2, 0, 1, 0, 6, 0x80);
+        due.bytes("two bits", Tapes.written(y), 83, 0, 3, 1, 'a', 0, 6, 'b', 0, 2, 0, 2, 0, 1, 0, 6, 0x80);
         looks("two bits", y, 8, 14, 2, 2, 1, 2);
     }
 
     private void promise10PackDivision() {
-        ShareCoder x = learned("\5\6", 1);
+        Limited x = Tapes.learned("\5\6", 1);
         Tapes.put(x, Tapes.repeated(6, 8));
         // X is twice X and 1: 2^30 + 127 behind seven; then the byte 127 goes out.
         due.is("pack", x.pack(0, 1, 0), 19);
-        bytes("packet", Tapes.written(x), 83, 4, 1, 1, 5, 0, 1, 6, 0, 1, 0, 8, 0, 1, 0, 0x80, 0, 1, 127);
+        due.bytes("packet", Tapes.written(x), 83, 4, 1, 1, 5, 0, 1, 6, 0, 1, 0, 8, 0, 1, 0, 0x80, 0, 1, 127);
         looks("packet", x, LEAST, (1 << 30) + 127, 8, 1, 1, 1);
         Tapes.put(x, 6);
         due.is("pack by two", x.pack(0, 2, 0), 22);
-        bytes("two states", Tapes.written(x), 83, 8, 1, 1, 5, 0, 1, 6, 0, 1, 0, 1, 0, 0, 1, 0, 0, 1, 0, 0x80, 0, 0);
+        due.bytes("two states", Tapes.written(x), 83, 8, 1, 1, 5, 0, 1, 6, 0, 1, 0, 1, 0, 0, 1, 0, 0, 1, 0, 0x80, 0, 0);
         looks("two states", x, LEAST, (1 << 24) + 1, 1, 0, 0, 0);
         // State 0 has the sixes, state 1 the fives. Each gives its byte with its eighth SYMBOL from behind, state 0
         // behind state 1: so 127 is read first.
@@ -290,15 +275,15 @@ public final class PromisesTest {
         }
         Tapes.put(x, message);
         due.is("pack both", x.pack(0, 2, 0), 24);
-        bytes("both", Tapes.written(x), 83, 8, 1, 1, 5, 0, 1, 6, 0, 1, 0, 16, 0, 2,
+        due.bytes("both", Tapes.written(x), 83, 8, 1, 1, 5, 0, 1, 6, 0, 1, 0, 16, 0, 2,
                 0, 0x80, 0, 1, 0, 0x80, 0, 0, 127, 0);
         x.end(0);
         due.is("pack nothing", x.pack(0, 1, 0), 18);
-        bytes("nothing", Tapes.written(x), 83, 4, 1, 1, 5, 0, 1, 6, 0, 1, 0, 0, 0, 0, 0, 0x80, 0, 0);
+        due.bytes("nothing", Tapes.written(x), 83, 4, 1, 1, 5, 0, 1, 6, 0, 1, 0, 0, 0, 0, 0, 0x80, 0, 0);
     }
 
     private void promise10PackRefuses() {
-        ShareCoder x = learned("\5\6", 1);
+        Limited x = Tapes.learned("\5\6", 1);
         Tapes.put(x, 5, 6, 6);
         x.pack(0, 0, 0);
         int[] before = Tapes.written(x);
@@ -322,24 +307,24 @@ public final class PromisesTest {
         due.is("pack 1401", x.pack(0, 0, 0), -2);
         due.is("pack 1401, no TABLE", x.pack(1, 0, 0), NONE);
         due.is("the TAPE stays", x.end(1401), 1401);
-        bytes("nothing is changed", Tapes.written(x), before);
+        due.bytes("nothing is changed", Tapes.written(x), before);
         looks("nothing is changed", x, 2, 3, 3, 3, 1, 1);
         Tapes.put(x, Tapes.repeated(5, 1400));
         due.is("pack 1400", x.pack(0, 0, 0), 16 + 175);
     }
 
     private void promise11Unpack() {
-        ShareCoder x = new ShareCoder();
+        Limited x = new Limited();
         Tapes.put(x, 83, 0, 1, 1, 5, 0, 1, 6, 0, 1, 0, 3, 0, 1, 0, 0, 0xC0);
         due.is("unpack", x.unpack(4), 3);
-        bytes("message", Tapes.written(x), 5, 6, 6);
+        due.bytes("message", Tapes.written(x), 5, 6, 6);
         looks("message", x, 2, 3, 3, 3, 1, 1);
         due.is("its LOG", x.log(4), 1);
         shares("its TABLE", x, 4, 5, 1, 6, 1);
         due.is("the TAPE is empty", x.end(1), NONE);
         Tapes.put(x, 83, 4, 1, 1, 5, 0, 1, 6, 0, 1, 0, 8, 0, 1, 0, 0x80, 0, 1, 127);
         due.is("unpack one state", x.unpack(4), 8);
-        bytes("eight", Tapes.written(x), 6, 6, 6, 6, 6, 6, 6, 6);
+        due.bytes("eight", Tapes.written(x), 6, 6, 6, 6, 6, 6, 6, 6);
         looks("eight", x, LEAST, (1 << 30) + 127, 8, 1, 1, 1);
         Tapes.put(x, 83, 8, 1, 0, 9, 0, 2, 0, 0, 0, 0, 0, 0x80, 0, 0, 0, 0x80, 0, 0);
         due.is("unpack nothing", x.unpack(0), 0);
@@ -355,7 +340,7 @@ public final class PromisesTest {
     }
 
     private void promise11UnpackKeepsAllElse() {
-        ShareCoder x = learned("aab", 2);
+        Limited x = Tapes.learned("aab", 2);
         Tapes.put(x, "aba");
         int count = x.pack(0, 1, 0);
         int[] packet = Tapes.written(x);
@@ -369,7 +354,7 @@ public final class PromisesTest {
         Tapes.put(x, wrong);
         due.is("unpack at FAULT", x.unpack(0), NONE);
         due.is("the TAPE is empty", x.end(1), NONE);
-        bytes("what is written stays", Tapes.written(x), packet);
+        due.bytes("what is written stays", Tapes.written(x), packet);
         shares("the TABLE stays", x, 0, 'a', 3, 'b', 1);
         due.is("look stays", x.look(1), greatest);
         due.is("take gives the packet", x.take(), count);
@@ -378,11 +363,11 @@ public final class PromisesTest {
         due.is("no TABLE came", x.log(3), NONE);
         Tapes.put(x, packet);
         due.is("unpack what was packed", x.unpack(3), 3);
-        bytes("message", Tapes.written(x), 'a', 'b', 'a');
+        due.bytes("message", Tapes.written(x), 'a', 'b', 'a');
     }
 
     private void promise12Fault() {
-        ShareCoder x = new ShareCoder();
+        Limited x = new Limited();
         due.is("ahead of any", x.fault(0), 0);
         due.is("place ahead of any", x.fault(1), NONE);
         x.unpack(6);
@@ -409,7 +394,7 @@ public final class PromisesTest {
     }
 
     private void promise13Written() {
-        ShareCoder x = learned("\5\6", 1);
+        Limited x = Tapes.learned("\5\6", 1);
         due.is("nothing yet", x.written(0), NONE);
         x.pack(0, 0, 0);
         due.is("the first", x.written(0), 83);
@@ -425,7 +410,7 @@ public final class PromisesTest {
     }
 
     private void promise14Take() {
-        ShareCoder x = new ShareCoder();
+        Limited x = new Limited();
         x.feed(1, 2, 3, 4, 5);
         due.is("take nothing", x.take(), 0);
         due.is("in place of what it had", x.end(1), NONE);
@@ -443,7 +428,7 @@ public final class PromisesTest {
     }
 
     private void ideal(String what, int want, String table, int m, int... message) {
-        ShareCoder x = learned(table, m);
+        Limited x = Tapes.learned(table, m);
         Tapes.put(x, message);
         due.is("ideal of " + what, x.ideal(0), want);
         due.is("the TAPE stays", x.end(message.length), message.length);
@@ -460,7 +445,7 @@ public final class PromisesTest {
         ideal("1 of 4", 2, "aaab", 2, 'b');
         // 3^1400 has its highest bit at 2218.
         ideal("3^1400 of 4^1400", 582, "aaab", 2, Tapes.repeated('a', 1400));
-        ShareCoder x = new ShareCoder();
+        Limited x = new Limited();
         Tapes.put(x, Tapes.joined(Tapes.repeated(7, 3999), new int[] {200}));
         x.learn(2, 12);
         due.is("4000 bytes", x.ideal(2), -2);
@@ -478,7 +463,7 @@ public final class PromisesTest {
         }
     }
 
-    private void coded(ShareCoder x, int kind, int state, int symbol, int want, int units, int number) {
+    private void coded(Limited x, int kind, int state, int symbol, int want, int units, int number) {
         String what = "code(0, " + kind + ", 0, " + state + ", " + symbol + ")";
         due.is(what, x.code(0, kind, 0, state, symbol), want);
         due.is(what + ": gone(0)", x.gone(0), units);
@@ -490,7 +475,7 @@ public final class PromisesTest {
     }
 
     private void promise16Code() {
-        ShareCoder x = new ShareCoder();
+        Limited x = new Limited();
         Tapes.put(x, Tapes.joined(Tapes.repeated('a', 3999), new int[] {'b'}));
         x.learn(0, 12);
         coded(x, 0, 4096, 'b', 8191, 12, 0);
@@ -507,18 +492,18 @@ public final class PromisesTest {
             coded(x, kind, (1 << 19) * 4095 - 1, 'a', ((1 << 19) - 1) * 4096 + 4094, 0, 0);
             coded(x, kind, (1 << 19) * 4095, 'a', 2048 * 4096, 1, 0);
         }
-        ShareCoder one = learned("zz", 12);
+        Limited one = Tapes.learned("zz", 12);
         coded(one, 0, 8191, 'z', 8191, 0, 0);
         coded(one, 1, MAX, 'z', MAX, 0, 0);
         coded(one, 1, LEAST, 'z', LEAST, 0, 0);
         // EVEN of aaab in 8: a a b a a a b a.
-        ShareCoder even = learned("aaab", 3);
+        Limited even = Tapes.learned("aaab", 3);
         due.is("code by EVEN", even.code(0, 0, 2, 15, 'b'), 8 + 6);
         due.is("code by ROW", even.code(0, 0, 0, 15, 'b'), 8 + 7);
     }
 
     private void promise16CodeRefuses() {
-        ShareCoder x = learned("aaab", 3);
+        Limited x = Tapes.learned("aaab", 3);
         due.is("a state", x.code(0, 0, 0, 8, 'b'), 14);
         for (int state : new int[] {7, 16, 0, -1, -8, MIN, MAX}) {
             due.is("KIND 0, state " + state, x.code(0, 0, 0, state, 'b'), NONE);
@@ -551,7 +536,7 @@ public final class PromisesTest {
         }
     }
 
-    private void refusedCoding(ShareCoder x, int t, int kind, int spread, int state) {
+    private void refusedCoding(Limited x, int t, int kind, int spread, int state) {
         String what = " by " + t + ", " + kind + ", " + spread;
         due.is("code" + what, x.code(t, kind, spread, state, 'a'), NONE);
         due.is("symbol" + what, x.symbol(t, kind, spread, state), NONE);
@@ -559,7 +544,7 @@ public final class PromisesTest {
     }
 
     private void promise17Gone() {
-        ShareCoder x = learned("aaab", 3);
+        Limited x = Tapes.learned("aaab", 3);
         x.code(0, 0, 0, 7, 'b');
         due.is("none yet", x.gone(0), 0);
         x.code(0, 0, 0, 13, 'b');
@@ -582,7 +567,7 @@ public final class PromisesTest {
     }
 
     private void promises18And19SymbolAndLeft() {
-        ShareCoder x = learned("aaab", 3);
+        Limited x = Tapes.learned("aaab", 3);
         due.is("symbol of 8 by ROW", x.symbol(0, 0, 0, 8), 'a');
         due.is("left of 8 by ROW", x.left(0, 0, 0, 8), 6);
         due.is("symbol of 13 by ROW", x.symbol(0, 0, 0, 13), 'a');
@@ -601,7 +586,7 @@ public final class PromisesTest {
     }
 
     private void promise20Look() {
-        ShareCoder x = learned("aaab", 3);
+        Limited x = Tapes.learned("aaab", 3);
         Tapes.put(x, "ba");
         x.pack(0, 0, 0);
         looks("pack", x, 8, 14, 2, 2, 1, 2);
@@ -639,7 +624,7 @@ public final class PromisesTest {
         int[] all = new int[256];
         Arrays.setAll(all, s -> s);
         for (int coding = 0; coding < 5; coding++) {
-            ShareCoder x = new ShareCoder();
+            Limited x = new Limited();
             Tapes.put(x, Tapes.joined(all, Tapes.repeated(0, 3744)));
             due.is("256 SYMBOLS of 4096", x.learn(0, 12), 256);
             int[] message = new int[1400];
@@ -649,7 +634,7 @@ public final class PromisesTest {
             due.holds("a long packet: " + count, count > 2800 && count <= 2900);
             due.is("take it", x.take(), count);
             due.is("read it", x.unpack(1), 1400);
-            bytes("it", Tapes.written(x), message);
+            due.bytes("it", Tapes.written(x), message);
         }
     }
 }

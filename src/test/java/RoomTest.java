@@ -2,6 +2,7 @@ import java.lang.management.ManagementFactory;
 import java.lang.reflect.Array;
 import java.lang.reflect.Field;
 import java.lang.reflect.Modifier;
+import java.util.Arrays;
 import java.util.Collections;
 import java.util.IdentityHashMap;
 import java.util.Set;
@@ -10,7 +11,7 @@ import java.util.Set;
 public final class RoomTest {
     private static final int MOST_OBJECTS = 60;
     private static final int MOST_ELEMENTS = 24000;
-    private static final long MOST_BYTES_A_RUN = 20000;
+    private static final long MOST_BYTES_OF_CALLS = 20000;
 
     private int elements = 0;
 
@@ -21,14 +22,19 @@ public final class RoomTest {
         test.walk(new ShareCoder(), seen);
         due.holds("objects of a new one: " + seen.size(), seen.size() <= MOST_OBJECTS);
         due.holds("fields and elements of a new one: " + test.elements, test.elements <= MOST_ELEMENTS);
-        ShareCoder x = new ShareCoder();
-        work(x);
+        ShareCoder[] objects = new ShareCoder[8];
+        Arrays.setAll(objects, i -> new ShareCoder());
         com.sun.management.ThreadMXBean threads =
                 (com.sun.management.ThreadMXBean) ManagementFactory.getThreadMXBean();
+        // What the machine makes when code runs for the first time is not the program's.
+        work(objects[0]);
         long before = threads.getCurrentThreadAllocatedBytes();
-        int calls = work(x);
+        int calls = 0;
+        for (int i = 1; i < objects.length; i++) {
+            calls += work(objects[i]);
+        }
         long made = threads.getCurrentThreadAllocatedBytes() - before;
-        due.holds(calls + " calls made " + made + " bytes", made <= MOST_BYTES_A_RUN);
+        due.holds(calls + " calls made " + made + " bytes", made <= MOST_BYTES_OF_CALLS);
         due.finish("RoomTest");
     }
 
@@ -55,10 +61,10 @@ public final class RoomTest {
         }
     }
 
-    /** The dearest calls, over and over. */
+    /** The dearest calls, over and over, but 512 at most. */
     private static int work(ShareCoder x) {
         int calls = 0;
-        for (int round = 0; round < 40; round++) {
+        for (int round = 0; round < 6; round++) {
             x.end(0);
             for (int i = 0; i < 70; i++) {
                 x.feed(i * 0x01020304, i, -i, i << 20, 77);
