@@ -1,3 +1,6 @@
+import java.util.ArrayList;
+import java.util.List;
+
 /** Boundary cases of TABLES, LEARN, SPREADS and RANKS: promises 4 to 9 and Terms 1. */
 public final class TableEdgesTest {
     private static final int MIN = Integer.MIN_VALUE;
@@ -43,8 +46,10 @@ public final class TableEdgesTest {
         test.strideByEachLog();
         test.strideOfTheGreatestLog();
         test.evenOfThoseAlikeTheLesser();
+        test.evenOfManySymbols();
         test.ranksFromTheShareOn();
         test.placesAreOfTheTableAsItIs();
+        test.placesOfTwoTablesInTurn();
         test.due.finish("TableEdgesTest");
     }
 
@@ -272,6 +277,9 @@ public final class TableEdgesTest {
         shares(Tapes.learned("aaaabbbbbbbccdef", 3), 'a', 1, 'b', 3, 'c', 1, 'd', 1, 'e', 1, 'f', 1);
         // 3, 2, 1, 1, 1, 1: LACK of a is 8, of b 0.
         shares(Tapes.learned("aaaaaaabbbbccdef", 3), 'a', 3, 'b', 1, 'c', 1, 'd', 1, 'e', 1, 'f', 1);
+        // 2, 2, 1, 1, 1, 1, 1: LACK of a is 16, of b 8; then the other way round.
+        shares(Tapes.learned("aaaaaaabbbbbbccddefg", 3), 'a', 2, 'b', 1, 'c', 1, 'd', 1, 'e', 1, 'f', 1, 'g', 1);
+        shares(Tapes.learned("aaaaaabbbbbbbccddefg", 3), 'a', 1, 'b', 2, 'c', 1, 'd', 1, 'e', 1, 'f', 1, 'g', 1);
     }
 
     private void lacksAreThoseOfThen() {
@@ -492,6 +500,36 @@ public final class TableEdgesTest {
         placeAndRank(z, 2, 4095, 2, 2049 + 2048);
     }
 
+    private void evenOfManySymbols() {
+        due.by("Promise 8, EVEN, in order of (2 i + 1) / f(s)");
+        for (int factor : new int[] {1, 7, 37, 53, 89}) {
+            evenOfMixedShares(factor);
+        }
+    }
+
+    /** SHARES of 1 .. 90, mixed by a factor, are 4095 together; one SYMBOL more has the last PLACE. */
+    private void evenOfMixedShares(int factor) {
+        int[] symbolsAndShares = new int[182];
+        List<int[]> pairs = new ArrayList<>();
+        for (int s = 0; s <= 90; s++) {
+            int share = s == 90 ? 1 : 1 + s * factor % 90;
+            symbolsAndShares[2 * s] = 2 * s;
+            symbolsAndShares[2 * s + 1] = share;
+            for (int i = 0; i < share; i++) {
+                pairs.add(new int[] {2 * s, i, share});
+            }
+        }
+        pairs.sort((a, b) -> {
+            int order = Integer.compare((2 * a[1] + 1) * b[2], (2 * b[1] + 1) * a[2]);
+            return order != 0 ? order : Integer.compare(a[0], b[0]);
+        });
+        Limited x = Tapes.fed(Packets.packet(Packets.head(0, 0, 12, symbolsAndShares), 0, Packets.first(0)));
+        due.is("unpack", x.unpack(0), 0);
+        for (int p = 0; p < 4096; p++) {
+            placeAndRank(x, 2, p, pairs.get(p)[0], pairs.get(p)[2] + pairs.get(p)[1]);
+        }
+    }
+
     private void ranksFromTheShareOn() {
         due.by("Promise 9, RANKS of a SYMBOL run from its SHARE on, once each");
         for (int m = 1; m <= 12; m += 11) {
@@ -527,5 +565,29 @@ public final class TableEdgesTest {
         x.learn(1, 1);
         due.is("place(1, 2, 1)", x.place(1, 2, 1), 'j');
         placeAndRank(x, 2, 1, 'f', 1);
+    }
+
+    private void placesOfTwoTablesInTurn() {
+        due.by("Promises 8 and 9, TABLES of the same SYMBOLS, and SPREADS, in turn");
+        Limited x = Tapes.learned("aaab", 2);
+        Tapes.put(x, "abbb");
+        x.learn(1, 2);
+        String[] first = {"aaab", "aaab", "aaba"};
+        String[] second = {"abbb", "abbb", "babb"};
+        for (int round = 0; round < 2; round++) {
+            for (int spread = 0; spread <= 2; spread++) {
+                for (int p = 0; p < 4; p++) {
+                    due.is("place(0, " + spread + ", " + p + ")", x.place(0, spread, p), first[spread].charAt(p));
+                    due.is("place(1, " + spread + ", " + p + ")", x.place(1, spread, p), second[spread].charAt(p));
+                }
+            }
+        }
+        x.learn(0, 3);
+        String greater = "babbbabb";
+        for (int p = 0; p < 8; p++) {
+            due.is("place(0, 2, " + p + ") of LOG 3", x.place(0, 2, p), greater.charAt(p));
+        }
+        due.is("rank(0, 2, 7)", x.rank(0, 2, 7), 11);
+        due.is("rank(1, 2, 3)", x.rank(1, 2, 3), 5);
     }
 }

@@ -34,6 +34,12 @@ public final class UnpackEdgesTest {
         test.unpackIntoEachTable();
         test.unpackInPlaceOfWhatWas();
         test.unpackLeavesTheTapeEmpty();
+        test.unpackWhatWasPacked();
+        test.readsBitsBelowM();
+        test.readsBytesBelowTheFirstState();
+        test.unpackOneBehindAnother();
+        test.unpackBehindAFault();
+        test.unpackLooks();
         test.unpackRefusesTables();
         test.unpackAtFaultLeavesAllElse();
         test.faultOfTheLatest();
@@ -183,6 +189,125 @@ public final class UnpackEdgesTest {
         due.none("unpack of an empty TAPE", x.unpack(0));
         due.is("its FAULT", x.fault(0), 1);
         due.is("its place", x.fault(1), 0);
+    }
+
+    private void unpackWhatWasPacked() {
+        due.by("Promise 11, what was packed, each KIND, SPREAD and LOG");
+        int[] message = new int[40];
+        Arrays.setAll(message, i -> i * i % 11 % 5 + 250);
+        for (int m = 3; m <= 12; m++) {
+            for (int[] coding : new int[][] {{0, 0}, {0, 1}, {0, 2}, {1, 0}, {2, 0}}) {
+                for (int length : new int[] {1, 2, 3, 7, 39, 40}) {
+                    Limited x = Tapes.learned(m, message);
+                    x.end(length);
+                    x.pack(0, coding[0], coding[1]);
+                    x.take();
+                    due.is("unpack(1)", x.unpack(1), length);
+                    due.bytes("message", Tapes.written(x), Arrays.copyOf(message, length));
+                }
+            }
+        }
+        due.by("Promise 11, a last byte of 1 to 8 bits");
+        for (int n = 1; n <= 17; n++) {
+            whole(n + " bits", Packets.packet(Packets.head(0, 0, 1, 5, 1, 6, 1), n, Packets.two(1),
+                    new int[(n + 7) / 8]), Packets.with(Tapes.repeated(5, n), 0, 6));
+        }
+    }
+
+    private void readsBitsBelowM() {
+        due.by("Terms 2, KIND 0, back: as long as it is below M, the next bit");
+        int[] head = Packets.head(0, 0, 3, 'a', 3, 'b', 5);
+        // PLACES 3 .. 7 have the RANKS 5 .. 9, PLACES 0 .. 2 the RANKS 3 .. 5.
+        whole("RANK 8, none", Packets.packet(head, 1, Packets.two(6)), 'b');
+        fault("RANK 9, none", Packets.packet(head, 1, Packets.two(7)), 7, 14);
+        fault("RANK 7, a bit", Packets.packet(head, 1, Packets.two(5)), 5, 16);
+        fault("RANK 7, a bit that is there", Packets.packet(head, 1, Packets.two(5), 0), 7, 14);
+        whole("RANK 4, a bit", Packets.packet(head, 1, Packets.two(1), 0), 'a');
+        fault("RANK 4, no second bit", Packets.packet(head, 1, Packets.two(1), 0x40), 6, 16);
+        fault("RANK 3, two bits", Packets.packet(head, 1, Packets.two(0), 0x40), 7, 14);
+        fault("RANK 3, no third bit", Packets.packet(head, 1, Packets.two(0), 0x20), 6, 16);
+    }
+
+    private void readsBytesBelowTheFirstState() {
+        due.by("Terms 2, KINDS 1 and 2, back: as long as it is below 2^23, the next byte");
+        int[] halves = Packets.head(1, 0, 1, 5, 1, 6, 1);
+        whole("2^23, none", Packets.packet(halves, 1, Packets.four(1 << 24)), 5);
+        whole("2^23, none", Packets.packet(halves, 1, Packets.four((1 << 24) + 1)), 6);
+        fault("2^23 + 1, none", Packets.packet(halves, 1, Packets.four((1 << 24) + 2)), 7, 14);
+        fault("2^23 - 1, a byte", Packets.packet(halves, 1, Packets.four((1 << 24) - 1)), 5, 18);
+        fault("2^23 - 1, a byte that is there", Packets.packet(halves, 1, Packets.four((1 << 24) - 1), 0), 7, 14);
+        int[] least = Packets.head(1, 0, 12, 3, 1, 4, 4095);
+        whole("2^15, a byte", Packets.packet(least, 1, Packets.four(1 << 27), 0), 3);
+        fault("2^15, no second byte", Packets.packet(least, 1, Packets.four(1 << 27), 0, 0), 6, 19);
+        fault("2^15 - 1, two bytes", Packets.packet(least, 1, Packets.four((1 << 27) - 4096), 0), 5, 19);
+        fault("2^15 - 1, two that are there", Packets.packet(least, 1, Packets.four((1 << 27) - 4096), 0, 0), 7, 14);
+        int[] two = Packets.head(2, 0, 12, 3, 1, 4, 4095);
+        whole("2^15 of the second state", Packets.packet(two, 2,
+                Tapes.joined(Packets.four(1 << 27), Packets.four(1 << 27)), 0, 0), 3, 3);
+        fault("2^15 - 1 of the second state", Packets.packet(two, 2,
+                Tapes.joined(Packets.four(1 << 27), Packets.four((1 << 27) - 4096)), 0, 0), 5, 24);
+    }
+
+    private void unpackOneBehindAnother() {
+        due.by("Promise 11, one PACKET behind another");
+        Limited x = new Limited();
+        int[][] packets = {
+            Packets.packet(Packets.head(0, 0, 1, 5, 1, 6, 1), 3, Packets.two(1), 0x40),
+            Packets.packet(Packets.head(0, 0, 1, 5, 1, 7, 1), 3, Packets.two(0), 0xC0),
+            Packets.packet(Packets.head(1, 0, 12, 5, 4095, 8, 1), 2, new int[] {0, 128, 15, 255}, 15, 255, 0),
+            Packets.packet(Packets.head(0, 0, 2, 5, 3, 6, 1), 1, Packets.two(3), 0)
+        };
+        int[][] messages = {{6, 5, 6}, {5, 7, 7}, {8, 8}, {6}};
+        for (int round = 0; round < 2; round++) {
+            for (int i = 0; i < packets.length; i++) {
+                Tapes.put(x, packets[i]);
+                due.is("unpack(0) of PACKET " + i, x.unpack(0), messages[i].length);
+                due.bytes("message " + i, Tapes.written(x), messages[i]);
+            }
+        }
+    }
+
+    private void unpackBehindAFault() {
+        due.by("Promise 11, a PACKET behind a FAULT");
+        int[] wrong = Packets.packet(Packets.head(0, 0, 2, 5, 1, 6, 3), 1, Packets.two(3), 0);
+        int[] right = Packets.packet(Packets.head(0, 0, 2, 5, 3, 6, 1), 1, Packets.two(3), 0);
+        Limited x = Tapes.fed(wrong);
+        due.none("unpack(0)", x.unpack(0));
+        due.is("FAULT", x.fault(0), 6);
+        Tapes.put(x, right);
+        due.is("unpack(0) behind it", x.unpack(0), 1);
+        due.bytes("message", Tapes.written(x), 6);
+        due.is("fault(0)", x.fault(0), 0);
+        due.is("place(0, 0, 2)", x.place(0, 0, 2), 5);
+        Tapes.put(x, wrong);
+        due.none("unpack(0) again", x.unpack(0));
+        due.is("place(0, 0, 2) as before", x.place(0, 0, 2), 5);
+        due.is("share(0, 5) as before", x.share(0, 5), 3);
+    }
+
+    private void looks(int[] packet, int... figures) {
+        Limited x = Tapes.fed(packet);
+        x.unpack(0);
+        for (int what = 0; what < 6; what++) {
+            due.is("look(" + what + ")", x.look(what), figures[what]);
+        }
+    }
+
+    private void unpackLooks() {
+        due.by("Promise 20, of an unpack() that no pack() was ahead of");
+        looks(ONE[0], 2, 2, 0, 0, 0, 0);
+        looks(ONE[1], LEAST, LEAST, 0, 0, 0, 0);
+        looks(ONE[2], LEAST, LEAST, 0, 0, 0, 0);
+        looks(Packets.packet(Packets.head(0, 0, 1, 5, 1, 6, 1), 3, Packets.two(1), 0), 2, 3, 3, 3, 1, 1);
+        looks(Packets.packet(Packets.head(1, 0, 12, 7, 4095, 200, 1), 2, new int[] {0, 128, 15, 255}, 15, 255, 0),
+                LEAST, 0x08000FFF, 2, 3, 3, 2);
+        due.by("Promise 20, of both states");
+        int[] head = Packets.head(2, 0, 1, 5, 1, 6, 1);
+        int[] low = Packets.four(1 << 24);
+        int[] high = Packets.four((1 << 24) + 1);
+        looks(Packets.packet(head, 2, Tapes.joined(low, high)), LEAST, (1 << 24) + 1, 2, 0, 0, 0);
+        looks(Packets.packet(head, 2, Tapes.joined(high, low)), LEAST, (1 << 24) + 1, 2, 0, 0, 0);
+        looks(Packets.packet(head, 1, Tapes.joined(high, Packets.four(LEAST))), LEAST, (1 << 24) + 1, 1, 0, 0, 0);
     }
 
     private void unpackRefusesTables() {
