@@ -411,6 +411,9 @@ public final class ShareCoder {
 
     /** The PLACES of one TABLE by one SPREAD, kept until another is asked for or a TABLE changes. */
     private static final class Spread {
+        // No way down a heap of all SYMBOLS is longer.
+        static final int HEAP_LEVELS = 8;
+
         // A cell holds its PLACE's RANK above the eight bits of its SYMBOL: one row in place of two.
         final int[] cells = new int[MOST_PLACES];
         // By START and how many PLACES of the SYMBOL are below.
@@ -510,7 +513,8 @@ public final class ShareCoder {
 
         private void sink(int from) {
             int at = from;
-            for (int child = 2 * at + 1; child < heaped; child = 2 * at + 1) {
+            for (int level = 0; level < HEAP_LEVELS && 2 * at + 1 < heaped; level++) {
+                int child = 2 * at + 1;
                 if (child + 1 < heaped && isAhead(heap[child + 1], heap[child])) {
                     child++;
                 }
