@@ -1,27 +1,32 @@
 import com.sun.source.tree.AssertTree;
+import com.sun.source.tree.AssignmentTree;
+import com.sun.source.tree.BinaryTree;
 import com.sun.source.tree.CatchTree;
 import com.sun.source.tree.ClassTree;
 import com.sun.source.tree.CompilationUnitTree;
+import com.sun.source.tree.CompoundAssignmentTree;
 import com.sun.source.tree.DoWhileLoopTree;
 import com.sun.source.tree.ExpressionTree;
 import com.sun.source.tree.ForLoopTree;
+import com.sun.source.tree.IdentifierTree;
 import com.sun.source.tree.LambdaExpressionTree;
-import com.sun.source.tree.LiteralTree;
 import com.sun.source.tree.MemberReferenceTree;
 import com.sun.source.tree.MethodInvocationTree;
 import com.sun.source.tree.MethodTree;
 import com.sun.source.tree.NewArrayTree;
 import com.sun.source.tree.NewClassTree;
-import com.sun.source.tree.ParenthesizedTree;
 import com.sun.source.tree.SynchronizedTree;
 import com.sun.source.tree.ThrowTree;
 import com.sun.source.tree.Tree;
 import com.sun.source.tree.TryTree;
 import com.sun.source.tree.TypeCastTree;
+import com.sun.source.tree.UnaryTree;
+import com.sun.source.tree.VariableTree;
 import com.sun.source.tree.WhileLoopTree;
 import com.sun.source.util.JavacTask;
 import com.sun.source.util.TreePath;
 import com.sun.source.util.TreePathScanner;
+import com.sun.source.util.TreeScanner;
 import com.sun.source.util.Trees;
 import java.io.IOException;
 import java.nio.file.Path;
@@ -34,6 +39,7 @@ import java.util.Map;
 import java.util.Set;
 import javax.lang.model.element.Element;
 import javax.lang.model.element.Modifier;
+import javax.lang.model.element.Name;
 import javax.lang.model.type.TypeMirror;
 import javax.tools.JavaCompiler;
 import javax.tools.StandardJavaFileManager;
@@ -141,26 +147,81 @@ public final class CallsTest extends TreePathScanner<Void, Void> {
 
     @Override
     public Void visitForLoop(ForLoopTree tree, Void unused) {
-        bounded(tree.getCondition(), tree);
+        loops++;
+        due.holds("rule 9: a loop has a counter against a bound: " + tree, isCounted(tree));
         return super.visitForLoop(tree, unused);
     }
 
     @Override
     public Void visitWhileLoop(WhileLoopTree tree, Void unused) {
-        bounded(tree.getCondition(), tree);
-        return super.visitWhileLoop(tree, unused);
+        never("rule 9, a loop without a counter", tree);
+        return null;
     }
 
     @Override
     public Void visitDoWhileLoop(DoWhileLoopTree tree, Void unused) {
-        bounded(tree.getCondition(), tree);
-        return super.visitDoWhileLoop(tree, unused);
+        never("rule 9, a loop without a counter", tree);
+        return null;
     }
 
-    private void bounded(ExpressionTree condition, Tree loop) {
-        loops++;
-        Tree inner = condition instanceof ParenthesizedTree p ? p.getExpression() : condition;
-        due.holds("rule 9: a loop has an end: " + loop, inner != null && !(inner instanceof LiteralTree));
+    /** Whether one counter goes by ones towards a bound that the condition names, and nothing else changes it. */
+    private static boolean isCounted(ForLoopTree loop) {
+        if (loop.getInitializer().size() != 1 || loop.getUpdate().size() != 1
+                || !(loop.getInitializer().get(0) instanceof VariableTree counter)
+                || !(loop.getUpdate().get(0).getExpression() instanceof UnaryTree step)
+                || !isNamed(step.getExpression(), counter.getName())) {
+            return false;
+        }
+        boolean rising = step.getKind() == Tree.Kind.POSTFIX_INCREMENT;
+        boolean falling = step.getKind() == Tree.Kind.POSTFIX_DECREMENT;
+        return (rising || falling)
+                && isBounded(loop.getCondition(), counter.getName(), rising)
+                && !isChanged(loop.getStatement(), counter.getName());
+    }
+
+    private static boolean isNamed(Tree tree, Name name) {
+        return tree instanceof IdentifierTree identifier && identifier.getName().equals(name);
+    }
+
+    private static boolean isBounded(ExpressionTree condition, Name counter, boolean rising) {
+        if (!(condition instanceof BinaryTree binary)) {
+            return false;
+        }
+        if (binary.getKind() == Tree.Kind.CONDITIONAL_AND) {
+            return isBounded(binary.getLeftOperand(), counter, rising)
+                    || isBounded(binary.getRightOperand(), counter, rising);
+        }
+        boolean against = rising ? binary.getKind() == Tree.Kind.LESS_THAN
+                : binary.getKind() == Tree.Kind.GREATER_THAN || binary.getKind() == Tree.Kind.GREATER_THAN_EQUAL;
+        return against && isNamed(binary.getLeftOperand(), counter);
+    }
+
+    private static boolean isChanged(Tree body, Name counter) {
+        boolean[] changed = {false};
+        new TreeScanner<Void, Void>() {
+            @Override
+            public Void visitAssignment(AssignmentTree tree, Void unused) {
+                changed[0] |= isNamed(tree.getVariable(), counter);
+                return super.visitAssignment(tree, unused);
+            }
+
+            @Override
+            public Void visitCompoundAssignment(CompoundAssignmentTree tree, Void unused) {
+                changed[0] |= isNamed(tree.getVariable(), counter);
+                return super.visitCompoundAssignment(tree, unused);
+            }
+
+            @Override
+            public Void visitUnary(UnaryTree tree, Void unused) {
+                boolean changes = tree.getKind() == Tree.Kind.POSTFIX_INCREMENT
+                        || tree.getKind() == Tree.Kind.POSTFIX_DECREMENT
+                        || tree.getKind() == Tree.Kind.PREFIX_INCREMENT
+                        || tree.getKind() == Tree.Kind.PREFIX_DECREMENT;
+                changed[0] |= changes && isNamed(tree.getExpression(), counter);
+                return super.visitUnary(tree, unused);
+            }
+        }.scan(body, null);
+        return changed[0];
     }
 
     @Override
